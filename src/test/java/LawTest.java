@@ -1,0 +1,214 @@
+/** Promises 9 and 10: THE TAPE and THE LAW. */
+public final class LawTest {
+    private static final Due DUE = new Due("LawTest");
+    private static final int BAD = -1, FULL = -3;
+
+    public static void main(String[] args) {
+        feeding();
+        texts();
+        faults();
+        outcomes();
+        names();
+        heldWithinTwelve();
+        aFaultLeavesTheLaw();
+        DUE.end();
+    }
+
+    private static int tell(ThreeSnowballs x, String text) {
+        for (char c : text.toCharArray()) {
+            x.feed(c);
+        }
+        return x.law();
+    }
+
+    private static void feeding() {
+        ThreeSnowballs x = new ThreeSnowballs();
+        DUE.due("9 feed(-1)", x.feed(-1), BAD);
+        DUE.due("9 feed(256)", x.feed(256), BAD);
+        DUE.due("9 feed(0)", x.feed(0), 1);
+        DUE.due("9 feed(255)", x.feed(255), 2);
+        DUE.due("41 count(3)", x.count(3), 2);
+        DUE.due("10 a byte 0", x.law(), -100);
+        DUE.due("10 THE TAPE is empty then", x.count(3), 0);
+        for (int i = 1; i <= 120; i++) {
+            DUE.due("9 feed, the " + i + "th", x.feed(i % 2 == 1 ? 'h' : '+'), i);
+        }
+        DUE.due("9 the 121st", x.feed('h'), FULL);
+        DUE.due("9 BAD goes ahead of FULL", x.feed(256), BAD);
+        DUE.due("10 it ends too early", x.law(), -220);
+        DUE.due("9 feed behind it", x.feed('h'), 1);
+        DUE.due("10 law()", x.law(), 1);
+        DUE.due("10 THE TAPE is empty then", x.count(3), 0);
+        for (int i = 0; i < 119; i++) {
+            x.feed(i % 2 == 0 ? 'h' : ';');
+        }
+        DUE.due("10 many lines", x.law(), 1);
+    }
+
+    private static void texts() {
+        String[] good = {
+            "h", "0", "9999", "0000", "h?a", "h?a;t;m?n", "h|a|t", "h&a&t", "h<a", "h=a", "h>a", "h+a-t", "h*a/t%m",
+            "!h", "-h", "!-!-!-h", "((((((h))))))", "(h<a)<t", "h<a|t<m", "--h--n", "h-(-1)", "h?h<a", "!(!(!(h)))+!h",
+            "!!!!!!h*!!!!!!h", "((((((h))))))+((((((h))))))", "1?2;3", "h%0", "(h)", "((((((1))))))<!!!!!!1"
+        };
+        for (String text : good) {
+            DUE.due("10 " + text, tell(new ThreeSnowballs(), text), 1);
+        }
+    }
+
+    private static void fault(String text, int place) {
+        DUE.due("10 " + text, tell(new ThreeSnowballs(), text), -100 - place);
+    }
+
+    private static void faults() {
+        fault("", 0);
+        fault(" h", 0);
+        fault("h ", 1);
+        fault("h +1", 1);
+        fault("x", 0);
+        fault("H", 0);
+        fault(")", 0);
+        fault("h)", 1);
+        fault("(h", 2);
+        fault("(", 1);
+        fault("()", 1);
+        fault("(h?a)", 2);
+        fault("(h;a)", 2);
+        fault("h?", 2);
+        fault("h?a?t", 3);
+        fault("?h", 0);
+        fault("h?;", 2);
+        fault("h;", 2);
+        fault(";h", 0);
+        fault("h;;h", 2);
+        fault("h<a<t", 3);
+        fault("h<a=t", 3);
+        fault("h<", 2);
+        fault("(h<a>t)", 4);
+        fault("h+", 2);
+        fault("h+*a", 2);
+        fault("h*", 2);
+        fault("h||a", 2);
+        fault("h&&a", 2);
+        fault("h==a", 2);
+        fault("h|", 2);
+        fault("h&", 2);
+        fault("!", 1);
+        fault("-", 1);
+        fault("h!", 1);
+        fault("12345", 4);
+        fault("1234h", 4);
+        fault("00001", 4);
+        fault("1h", 1);
+        fault("ha", 1);
+        fault("h1", 1);
+        fault("!!!!!!!h", 6);
+        fault("-------h", 6);
+        fault("((((((((h", 6);
+        fault("(!-(!-!h", 6);
+        fault("(!-(!-(h", 6);
+        fault("((((((-h))))))", 6);
+        fault("h+((((((h+(h", 10);
+        fault("((((((h)))))", 12);
+        fault("((((((h)))))))", 13);
+        fault("h\u00e9", 1);
+    }
+
+    /** What a LAW gives, seen by the likelihood that one of two is out by one throw. */
+    private static void number(String text, int twelfths) {
+        ThreeSnowballs x = new ThreeSnowballs();
+        x.player(7, 3);
+        x.player(5, 3);
+        x.bell(1);
+        DUE.due("10 " + text, tell(x, text), 1);
+        long above = x.worth(0, 2, 0);
+        long below = x.worth(0, 2, 1);
+        DUE.due("10 " + text + " in twelfths", below == 0 ? -1 : above * 12 / below, twelfths);
+        DUE.due("10 " + text + ": above times 12 by below is whole", below == 0 ? -1 : above * 12 % below, 0);
+    }
+
+    private static void outcomes() {
+        number("h", 7);
+        number("11", 11);
+        number("0011", 11);
+        number("2+3*2", 8);
+        number("(2+3)*2", 10);
+        number("9-4-3", 2);
+        number("9-(4-3)", 8);
+        number("40/4/2", 5);
+        number("7%4*3", 9);
+        number("0-7/2+12", 9);
+        number("0-(0-7)%4", 3);
+        number("-7/2+12", 9);
+        number("-7%4+12", 9);
+        number("5/0+3", 3);
+        number("5%0+3", 3);
+        number("(2<3)+(3<2)+(2<2)", 1);
+        number("(2>3)+(3>2)+(2>2)", 1);
+        number("(2=2)+(2=3)", 1);
+        number("2+1<4", 1);
+        number("(5|0)+(0|0)+(0|3)*4", 5);
+        number("(5&0)+(0&0)+(2&4)*4", 4);
+        number("1|0&0", 1);
+        number("0&0|1", 1);
+        number("(1|1&0)+2", 3);
+        number("0=0&1", 1);
+        number("5", 5);
+        number("!5+!0*6", 6);
+        number("!!5", 1);
+        number("--5", 5);
+        number("-!0+3", 2);
+        number("2--3", 5);
+        number("1?4;9", 4);
+        number("0?4;9", 9);
+        number("0-1?4;9", 4);
+        number("0?4;0?5", 0);
+        number("0?4;1?5;6", 5);
+        number("0?1;0?2;0?3;8;1?9", 8);
+        number("3;4", 3);
+        number("9999*9999*9999*9999>0", 1);
+        number("9999*9999*9999>0", 0);
+        number("2048*1024*1024<0", 1);
+        number("2048*1024*1024/-1<0", 1);
+        number("2048*1024*1024%-1+5", 5);
+    }
+
+    private static void names() {
+        number("a+1", 1);
+        number("t+1", 2);
+        number("m", 2);
+        number("n+3", 3);
+        ThreeSnowballs x = new ThreeSnowballs();
+        for (int i = 0; i < 4; i++) {
+            x.player(3 * i, 3);
+        }
+        DUE.due("10 12*(h=0&a=0&t=1&m=4&n=0 and so on)",
+            tell(x, "12*(h=0&a=0&t=1&m=4&n=0|h=6&a=2&t=3&m=3&n=1|h=0&a=0&t=2&m=2&n=2)"), 1);
+        DUE.due("10 h, a, t, m, n of each throw", x.worth(0, 2, 0), 1);
+        DUE.due("10 the mean of throws", x.just(-1, 0), 3);
+        DUE.due("10 THE LAW is told a throw in deed", x.step(11), 11);
+        DUE.due("10 THE LAW is told a throw in deed", x.step(11), 231);
+        DUE.due("10 THE LAW is told a throw in deed", x.step(11), 21);
+    }
+
+    private static void heldWithinTwelve() {
+        number("13", 12);
+        number("9999", 12);
+        number("-1", 0);
+        number("0-9999", 0);
+        number("12", 12);
+    }
+
+    private static void aFaultLeavesTheLaw() {
+        ThreeSnowballs x = new ThreeSnowballs();
+        x.player(12, 3);
+        x.player(12, 2);
+        x.bell(1);
+        DUE.due("10 law 0", tell(x, "0"), 1);
+        DUE.due("10 nobody is hit", x.just(3, 0), 1);
+        DUE.due("10 a fault", tell(x, "h+"), -102);
+        DUE.due("10 THE LAW is as it was", x.just(3, 0), 1);
+        DUE.due("10 another law", tell(x, "h"), 1);
+        DUE.due("10 it counts", x.just(3, 0), 0);
+    }
+}
