@@ -8,10 +8,12 @@ public final class DeedTest {
         stepsTillTheBell();
         stepsByWaysOfNow();
         images();
+        imagesKeepTheTurn();
         imagesThatGo();
         undone();
         doneAgain();
         fortyAreKept();
+        fortyOfAllSorts();
         DUE.end();
     }
 
@@ -99,6 +101,20 @@ public final class DeedTest {
         DUE.due("29 HITS are not in it", x.of(0, 0), 3);
     }
 
+    private static void imagesKeepTheTurn() {
+        ThreeSnowballs x = new ThreeSnowballs();
+        DUE.due("29 nobody, and none", x.back(), STATE);
+        x = with(1, 3, 2, 3, 3, 3);
+        x.step(11);
+        DUE.due("28 image()", x.image(), 1);
+        DUE.due("26 step", x.step(11), 120);
+        DUE.due("29 back()", x.back(), 1);
+        DUE.due("26 whose turn it was", x.step(11), 120);
+        x.step(11);
+        DUE.due("29 back()", x.back(), 1);
+        DUE.due("26 whose turn it was", x.step(1), 121);
+    }
+
     private static void imagesThatGo() {
         ThreeSnowballs x = with(12, 3, 12, 3);
         x.image();
@@ -140,10 +156,10 @@ public final class DeedTest {
         DUE.due("30 HITS", x.of(0, 0), 1);
         DUE.due("30 none", x.undo(), STATE);
         DUE.due("41 count(4)", x.count(4), 0);
-        DUE.due("11 by the HITS of then", x.worth(0, 2, 1), ThreeSnowballsOf(1, 1, 2, 2));
+        DUE.due("11 by the HITS of then", x.worth(0, 2, 1), aloneBelow(1, 1, 2, 2));
     }
 
-    private static long ThreeSnowballsOf(int... told) {
+    private static long aloneBelow(int... told) {
         return with(told).worth(0, 2, 1);
     }
 
@@ -199,5 +215,23 @@ public final class DeedTest {
             DUE.due("31 HITS", x.of(0, 0), (45 - left) % 13);
         }
         DUE.due("31 none", x.redo(), STATE);
+    }
+
+    private static void fortyOfAllSorts() {
+        ThreeSnowballs x = with(0, 0, 0, 0);
+        x.mend(0, 0, 12);
+        for (int i = 0; i < 20; i++) {
+            x.mend(1, 1, (i + 1) % 2 * 5);
+            x.mend(0, 2, (i + 1) % 2 * 3);
+        }
+        for (int i = 19; i >= 0; i--) {
+            x.undo();
+            DUE.due("30 whom TOLD", x.of(0, 2), i % 2 * 3);
+            DUE.due("30 not yet the WAY", x.of(1, 1), (i + 1) % 2 * 5);
+            x.undo();
+            DUE.due("30 the WAY", x.of(1, 1), i % 2 * 5);
+        }
+        DUE.due("30 none", x.undo(), STATE);
+        DUE.due("30 the first stays", x.of(0, 0), 12);
     }
 }

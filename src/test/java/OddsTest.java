@@ -17,6 +17,7 @@ public final class OddsTest {
         settling();
         evens();
         leagueAndPoints();
+        askedFirst();
         thoughtsChangeNothing();
         DUE.end();
     }
@@ -279,6 +280,22 @@ public final class OddsTest {
         DUE.due("18 settle(0)", x.settle(0), NOT);
         DUE.due("18 settle(4)", x.settle(4), BAD);
         DUE.due("18 in thought", x.of(1, 1) * 10 + x.of(0, 1), 5);
+        // REST behind the eighth, and behind a ninth that is not made any more.
+        x = with(7, 4, 0, 0, 5, 1, 5, 2);
+        x.bell(5);
+        DUE.due("17 rest()", x.rest(), 0);
+        DUE.due("18 settle(-1)", x.settle(-1), 8);
+        int[] settled = {5, 0, 1, 2};
+        for (int player = 0; player < 4; player++) {
+            DUE.due("18 settle(" + player + ")", x.settle(player), settled[player]);
+        }
+        x = with(6, 0, 1, 2, 2, 3, 7, 2);
+        x.bell(3);
+        x.mend(1, 2, 1);
+        x.mend(2, 2, 3);
+        x.mend(3, 2, 2);
+        DUE.due("18 settle(-1)", x.settle(-1), NOT);
+        DUE.due("18 settle(3)", x.settle(3), NOT);
     }
 
     private static void evens() {
@@ -289,13 +306,23 @@ public final class OddsTest {
         x.mend(1, 0, 11);
         // 207 x less 1188 by 144: nearest to 0 with 6.
         DUE.due("19 even(0)", x.even(0), 6);
-        x = with(3, 2, 12, 2);
+        x = with(3, 3, 12, 3);
+        x.bell(1);
+        x.prize(2, 0);
+        x.mend(0, 1, 2);
         DUE.due("19 of like ones the fewest", x.even(0), 0);
+        x = with(3, 2, 12, 3);
+        x.order(21);
+        x.bell(1);
+        // By x twelfths 1 is alone and has 9, else both have 4: with 0 they are like.
+        DUE.due("19 the least", x.even(1), 0);
+        x = with(3, 3, 12, 3);
+        tell(x, "a=0?h/2;12");
+        x.bell(2);
+        // THE LAW gives half the HITS: by half they are like.
+        DUE.due("19 the most", x.even(0), 12);
         x = with(3, 3, 5, 3);
-        for (char c : "a=0?(h>6)*12;12".toCharArray()) {
-            x.feed(c);
-        }
-        x.law();
+        tell(x, "a=0?(h>6)*12;12");
         // 9 above or 9 below: the size counts.
         DUE.due("19 of like sizes the fewest", x.even(0), 0);
         x = with(9, 0);
@@ -328,6 +355,42 @@ public final class OddsTest {
         x.bell(0);
         DUE.due("20 like", x.league(2), 0);
         DUE.due("21 points(1)", x.points(1), 2);
+    }
+
+    /** Each on an object that was asked nothing ahead, and behind each thing that is told. */
+    private static void askedFirst() {
+        DUE.due("14 begin(1)", with(12, 3, 12, 3).begin(1), 1);
+        DUE.due("15 fair()", with(12, 3, 6, 3).fair(), 1);
+        DUE.due("17 rest()", with(12, 2, 12, 2).rest(), 0);
+        DUE.due("20 league(2)", with(12, 3, 6, 3, 12, 3).league(2), 1);
+        DUE.due("21 points(0)", with(12, 3, 6, 3, 12, 3).points(0), 4);
+        DUE.due("13 aims(0, 7, 0)", with(12, 0, 6, 3, 12, 3).aims(0, 7, 0), 2);
+        ThreeSnowballs x = with(12, 3);
+        worth(x, 0, 0, 9, 1);
+        x.player(7, 3);
+        worth(x, 1, 0, 0, 1);
+        x.player(12, 3);
+        worth(x, 2, 0, 9, 1);
+        DUE.due("21 points(0)", x.points(0), 4);
+        x.mend(0, 0, 0);
+        DUE.due("21 points(0)", x.points(0), 0);
+        x.undo();
+        DUE.due("21 points(0)", x.points(0), 4);
+        x.redo();
+        DUE.due("21 points(0)", x.points(0), 0);
+        tell(x, "a=0?12;h");
+        DUE.due("21 points(0)", x.points(0), 4);
+        x.order(321);
+        DUE.due("21 points(0)", x.points(0), 0);
+        x.bell(0);
+        DUE.due("21 points(0)", x.points(0), 2);
+    }
+
+    private static void tell(ThreeSnowballs x, String law) {
+        for (char c : law.toCharArray()) {
+            x.feed(c);
+        }
+        DUE.due("10 " + law, x.law(), 1);
     }
 
     private static void thoughtsChangeNothing() {

@@ -7,6 +7,7 @@ public final class ToldTest {
         whatCanBe();
         whatCannotBe();
         numbersOfThrows();
+        oneTwelfthAndEleven();
         whoWasWrong();
         chances();
         refused();
@@ -107,6 +108,18 @@ public final class ToldTest {
         judged(x, 1, 2, 0, 0, 0);
         judged(x, NOT, 2, 0, 0, 1);
         judged(x, NOT, 9, 0, 2, 0);
+    }
+
+    private static void oneTwelfthAndEleven() {
+        ThreeSnowballs x = with(1, 3, 11, 3);
+        judged(x, NOT, 1, 1);
+        judged(x, NOT, 1, 0, 0, 0);
+        chance(x, 1, 12, 1, 1);
+        chance(x, 11, 144, 1, 0, 0, 0);
+        x.row(5, 0, 2);
+        x.put(5, 0, 1);
+        DUE.due("22 judge(5, 0)", x.judge(5, 0), NOT);
+        DUE.due("23 chance(5, 1)", x.chance(5, 1), 12);
     }
 
     private static void wrong(ThreeSnowballs x, int want, int... bytes) {
