@@ -365,21 +365,19 @@ public final class ThreeSnowballs {
     }
 
     public int undo() {
-        if (changes.done == 0) {
+        int at = changes.takeBack();
+        if (at == NOT) {
             return STATE;
         }
-        int at = changes.done - 1;
-        changes.done = at;
         tell(changes.players[at], changes.whats[at], changes.before[at]);
         return changes.done;
     }
 
     public int redo() {
-        int at = changes.done;
-        if (at >= changes.kept) {
+        int at = changes.takeAgain();
+        if (at == NOT) {
             return STATE;
         }
-        changes.done = at + 1;
         tell(changes.players[at], changes.whats[at], changes.behind[at]);
         return changes.kept - changes.done;
     }
@@ -1282,6 +1280,24 @@ public final class ThreeSnowballs {
             behind[done] = becomes;
             done++;
             kept = done;
+        }
+
+        /** The place of the change to be UNDONE; NOT: none. */
+        int takeBack() {
+            if (done == 0) {
+                return NOT;
+            }
+            done--;
+            return done;
+        }
+
+        /** The place of the change to be DONE AGAIN; NOT: none. */
+        int takeAgain() {
+            if (done >= kept) {
+                return NOT;
+            }
+            done++;
+            return done - 1;
         }
 
         private static void dropFirst(int[] row) {

@@ -17,22 +17,14 @@ public final class DeedTest {
         DUE.end();
     }
 
-    private static ThreeSnowballs with(int... told) {
-        ThreeSnowballs x = new ThreeSnowballs();
-        for (int i = 0; i < told.length; i += 2) {
-            x.player(told[i], told[i + 1]);
-        }
-        return x;
-    }
-
     private static void steps() {
-        ThreeSnowballs x = with();
+        ThreeSnowballs x = Tell.players();
         DUE.due("26 nobody is there", x.step(0), STATE);
         DUE.due("26 BAD goes ahead", x.step(12), BAD);
         DUE.due("27 anew()", x.anew(), 0);
-        x = with(6, 3);
+        x = Tell.players(6, 3);
         DUE.due("26 one alone", x.step(0), STATE);
-        x = with(6, 3, 0, 2, 12, 3, 1, 3);
+        x = Tell.players(6, 3, 0, 2, 12, 3, 1, 3);
         for (int number : new int[] {-1, 12, Integer.MIN_VALUE, Integer.MAX_VALUE}) {
             DUE.due("26 step(" + number + ")", x.step(number), BAD);
         }
@@ -52,7 +44,7 @@ public final class DeedTest {
     }
 
     private static void stepsTillTheBell() {
-        ThreeSnowballs x = with(0, 3, 1, 3);
+        ThreeSnowballs x = Tell.players(0, 3, 1, 3);
         x.bell(3);
         x.order(21);
         DUE.due("26 the ORDER's first", x.step(11), 100);
@@ -67,7 +59,7 @@ public final class DeedTest {
     }
 
     private static void stepsByWaysOfNow() {
-        ThreeSnowballs x = with(12, 2, 12, 2, 12, 2);
+        ThreeSnowballs x = Tell.players(12, 2, 12, 2, 12, 2);
         DUE.due("26 into the air", x.step(0), 90);
         x.mend(1, 1, 4);
         DUE.due("26 at the told one", x.step(0), 101);
@@ -80,7 +72,7 @@ public final class DeedTest {
     }
 
     private static void images() {
-        ThreeSnowballs x = with(12, 3, 12, 3, 12, 3);
+        ThreeSnowballs x = Tell.players(12, 3, 12, 3, 12, 3);
         DUE.due("29 there is none", x.back(), STATE);
         DUE.due("28 image()", x.image(), 0);
         DUE.due("26 step", x.step(0), 11);
@@ -104,7 +96,7 @@ public final class DeedTest {
     private static void imagesKeepTheTurn() {
         ThreeSnowballs x = new ThreeSnowballs();
         DUE.due("29 nobody, and none", x.back(), STATE);
-        x = with(1, 3, 2, 3, 3, 3);
+        x = Tell.players(1, 3, 2, 3, 3, 3);
         x.step(11);
         DUE.due("28 image()", x.image(), 1);
         DUE.due("26 step", x.step(11), 120);
@@ -116,7 +108,7 @@ public final class DeedTest {
     }
 
     private static void imagesThatGo() {
-        ThreeSnowballs x = with(12, 3, 12, 3);
+        ThreeSnowballs x = Tell.players(12, 3, 12, 3);
         x.image();
         x.player(1, 1);
         DUE.due("29 a player came since", x.back(), STATE);
@@ -140,7 +132,7 @@ public final class DeedTest {
     }
 
     private static void undone() {
-        ThreeSnowballs x = with(1, 1, 2, 2);
+        ThreeSnowballs x = Tell.players(1, 1, 2, 2);
         x.mend(0, 0, 12);
         x.mend(1, 1, 5);
         x.mend(1, 2, 3);
@@ -160,11 +152,11 @@ public final class DeedTest {
     }
 
     private static long aloneBelow(int... told) {
-        return with(told).worth(0, 2, 1);
+        return Tell.players(told).worth(0, 2, 1);
     }
 
     private static void doneAgain() {
-        ThreeSnowballs x = with(1, 1, 2, 2);
+        ThreeSnowballs x = Tell.players(1, 1, 2, 2);
         DUE.due("31 none", x.redo(), STATE);
         x.mend(0, 0, 12);
         x.mend(0, 1, 5);
@@ -199,7 +191,7 @@ public final class DeedTest {
     }
 
     private static void fortyAreKept() {
-        ThreeSnowballs x = with(0, 0);
+        ThreeSnowballs x = Tell.players(0, 0);
         for (int i = 1; i <= 45; i++) {
             x.mend(0, 0, i % 13);
             DUE.due("41 count(4) behind " + i, x.count(4), Math.min(i, 40));
@@ -218,7 +210,7 @@ public final class DeedTest {
     }
 
     private static void fortyOfAllSorts() {
-        ThreeSnowballs x = with(0, 0, 0, 0);
+        ThreeSnowballs x = Tell.players(0, 0, 0, 0);
         x.mend(0, 0, 12);
         for (int i = 0; i < 20; i++) {
             x.mend(1, 1, (i + 1) % 2 * 5);

@@ -14,13 +14,6 @@ public final class LawTest {
         DUE.end();
     }
 
-    private static int tell(ThreeSnowballs x, String text) {
-        for (char c : text.toCharArray()) {
-            x.feed(c);
-        }
-        return x.law();
-    }
-
     private static void feeding() {
         ThreeSnowballs x = new ThreeSnowballs();
         DUE.due("9 feed(-1)", x.feed(-1), BAD);
@@ -52,12 +45,12 @@ public final class LawTest {
             "!!!!!!h*!!!!!!h", "((((((h))))))+((((((h))))))", "1?2;3", "h?!!!!!!h", "!!!!!!h?a;!!!!!!h", "h%0", "(h)", "((((((1))))))<!!!!!!1"
         };
         for (String text : good) {
-            DUE.due("10 " + text, tell(new ThreeSnowballs(), text), 1);
+            DUE.due("10 " + text, Tell.law(new ThreeSnowballs(), text), 1);
         }
     }
 
     private static void fault(String text, int place) {
-        DUE.due("10 " + text, tell(new ThreeSnowballs(), text), -100 - place);
+        DUE.due("10 " + text, Tell.law(new ThreeSnowballs(), text), -100 - place);
     }
 
     private static void faults() {
@@ -122,7 +115,7 @@ public final class LawTest {
         x.player(7, 3);
         x.player(5, 3);
         x.bell(1);
-        DUE.due("10 " + text, tell(x, text), 1);
+        DUE.due("10 " + text, Tell.law(x, text), 1);
         long above = x.worth(0, 2, 0);
         long below = x.worth(0, 2, 1);
         DUE.due("10 " + text + " in twelfths", below == 0 ? -1 : above * 12 / below, twelfths);
@@ -185,7 +178,7 @@ public final class LawTest {
             x.player(3 * i, 3);
         }
         DUE.due("10 12*(h=0&a=0&t=1&m=4&n=0 and so on)",
-            tell(x, "12*(h=0&a=0&t=1&m=4&n=0|h=6&a=2&t=3&m=3&n=1|h=0&a=0&t=2&m=2&n=2)"), 1);
+            Tell.law(x, "12*(h=0&a=0&t=1&m=4&n=0|h=6&a=2&t=3&m=3&n=1|h=0&a=0&t=2&m=2&n=2)"), 1);
         DUE.due("10 h, a, t, m, n of each throw", x.worth(0, 2, 0), 1);
         DUE.due("10 the mean of throws", x.just(-1, 0), 3);
         DUE.due("10 THE LAW is told a throw in deed", x.step(11), 11);
@@ -206,11 +199,11 @@ public final class LawTest {
         x.player(12, 3);
         x.player(12, 2);
         x.bell(1);
-        DUE.due("10 law 0", tell(x, "0"), 1);
+        DUE.due("10 law 0", Tell.law(x, "0"), 1);
         DUE.due("10 nobody is hit", x.just(3, 0), 1);
-        DUE.due("10 a fault", tell(x, "h+"), -102);
+        DUE.due("10 a fault", Tell.law(x, "h+"), -102);
         DUE.due("10 THE LAW is as it was", x.just(3, 0), 1);
-        DUE.due("10 another law", tell(x, "h"), 1);
+        DUE.due("10 another law", Tell.law(x, "h"), 1);
         DUE.due("10 it counts", x.just(3, 0), 0);
     }
 }

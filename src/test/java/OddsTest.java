@@ -22,15 +22,6 @@ public final class OddsTest {
         DUE.end();
     }
 
-    /** PLAYERS by twos HITS, WAY. */
-    private static ThreeSnowballs with(int... told) {
-        ThreeSnowballs x = new ThreeSnowballs();
-        for (int i = 0; i < told.length; i += 2) {
-            x.player(told[i], told[i + 1]);
-        }
-        return x;
-    }
-
     private static void part(String call, long above, long below, long wantAbove, long wantBelow) {
         DUE.due(call + " above", above, wantAbove);
         DUE.due(call + " below", below, wantBelow);
@@ -45,7 +36,7 @@ public final class OddsTest {
     }
 
     private static void nobody() {
-        ThreeSnowballs x = with();
+        ThreeSnowballs x = Tell.players();
         just(x, 0, 1, 1);
         just(x, -1, 0, 1);
         DUE.due("15 fair()", x.fair(), STATE);
@@ -63,7 +54,7 @@ public final class OddsTest {
     }
 
     private static void duel() {
-        ThreeSnowballs x = with(6, 3, 12, 3);
+        ThreeSnowballs x = Tell.players(6, 3, 12, 3);
         worth(x, 0, 0, 9, 2);
         worth(x, 0, 1, 1, 2);
         worth(x, 0, 2, 1, 2);
@@ -85,20 +76,20 @@ public final class OddsTest {
         x.bell(0);
         worth(x, 0, 0, 4, 1);
         just(x, -1, 0, 1);
-        x = with(1, 3, 1, 3);
+        x = Tell.players(1, 3, 1, 3);
         x.bell(9);
         // Both miss nine times: 11 by 12 to the 9th.
         just(x, 3, 2357947691L, 5159780352L);
     }
 
     private static void strongAndWeak() {
-        ThreeSnowballs x = with(12, 0, 12, 0, 12, 0);
+        ThreeSnowballs x = Tell.players(12, 0, 12, 0, 12, 0);
         DUE.due("13 strong: of like HITS the least number", x.aims(0, 7, 0), 1);
         DUE.due("13 strong: but itself", x.aims(1, 7, 0), 0);
         DUE.due("13 strong: who is in", x.aims(1, 6, 0), 2);
         worth(x, 2, 2, 1, 1);
         just(x, -1, 2, 1);
-        x = with(5, 1, 3, 1, 3, 1, 9, 0);
+        x = Tell.players(5, 1, 3, 1, 3, 1, 9, 0);
         DUE.due("13 weak: of like HITS the least number", x.aims(0, 15, 0), 1);
         DUE.due("13 weak: but itself", x.aims(1, 15, 0), 2);
         DUE.due("13 weak: who is in", x.aims(2, 13, 0), 0);
@@ -109,7 +100,7 @@ public final class OddsTest {
     }
 
     private static void nextAndTold() {
-        ThreeSnowballs x = with(5, 3, 3, 3, 3, 4, 9, 2);
+        ThreeSnowballs x = Tell.players(5, 3, 3, 3, 3, 4, 9, 2);
         x.order(4132);
         DUE.due("13 next", x.aims(0, 15, 0), 2);
         DUE.due("13 next who is in", x.aims(0, 11, 0), 1);
@@ -123,7 +114,7 @@ public final class OddsTest {
         x.mend(2, 2, 2);
         DUE.due("13 told itself", x.aims(2, 15, 0), NOT);
         DUE.due("13 air", x.aims(3, 15, 0), NOT);
-        x = with(5, 4, 3, 3);
+        x = Tell.players(5, 4, 3, 3);
         x.mend(0, 2, 3);
         DUE.due("13 told one who is not there", x.aims(0, 3, 0), NOT);
         x.mend(0, 2, 1);
@@ -132,7 +123,7 @@ public final class OddsTest {
 
     private static void best() {
         // Weak, middling, sure: the weakest does best to let the others begin.
-        ThreeSnowballs x = with(4, 5, 8, 5, 12, 5);
+        ThreeSnowballs x = Tell.players(4, 5, 8, 5, 12, 5);
         x.bell(9);
         x.prize(3, 0);
         x.prize(2, 0);
@@ -147,7 +138,7 @@ public final class OddsTest {
     }
 
     private static void bestOfLikeOnes() {
-        ThreeSnowballs x = with(12, 5, 12, 2, 12, 2);
+        ThreeSnowballs x = Tell.players(12, 5, 12, 2, 12, 2);
         x.bell(1);
         DUE.due("13 of like ones the least number", x.aims(0, 7, 0), 1);
         DUE.due("13 of like ones the least number", x.aims(0, 5, 0), 2);
@@ -162,7 +153,7 @@ public final class OddsTest {
     }
 
     private static void justAndThrows() {
-        ThreeSnowballs x = with(12, 0, 6, 0, 3, 2);
+        ThreeSnowballs x = Tell.players(12, 0, 6, 0, 3, 2);
         // 0 hits 1, 2 throws into the air, 0 hits 2.
         just(x, -1, 3, 1);
         just(x, 1, 1, 1);
@@ -186,7 +177,7 @@ public final class OddsTest {
     }
 
     private static void wrongInputs() {
-        ThreeSnowballs x = with(5, 3, 3, 3);
+        ThreeSnowballs x = Tell.players(5, 3, 3, 3);
         int[][] worths = {{2, 0, 0}, {-1, 0, 0}, {0, 3, 0}, {0, -1, 0}, {0, 0, 2}, {0, 0, -1}};
         for (int[] w : worths) {
             DUE.due("11 worth(" + w[0] + ", " + w[1] + ", " + w[2] + ")", x.worth(w[0], w[1], w[2]), Long.MIN_VALUE);
@@ -217,20 +208,20 @@ public final class OddsTest {
     }
 
     private static void beginAndFair() {
-        ThreeSnowballs x = with(12, 3, 12, 3);
+        ThreeSnowballs x = Tell.players(12, 3, 12, 3);
         DUE.due("14 begin(0)", x.begin(0), 0);
         DUE.due("14 begin(1)", x.begin(1), 1);
         DUE.due("15 fair(): of like ones the first", x.fair(), 0);
         x.order(21);
         DUE.due("14 begin(0) by places in the ORDER", x.begin(0), 1);
         DUE.due("14 begin(1) by places in the ORDER", x.begin(1), 0);
-        x = with(12, 3, 6, 3);
+        x = Tell.players(12, 3, 6, 3);
         // As it is 9 and 0; if 1 begins, 9 by 2 each.
         DUE.due("15 fair()", x.fair(), 1);
-        x = with(12, 2, 6, 2, 6, 2);
+        x = Tell.players(12, 2, 6, 2, 6, 2);
         DUE.due("14 begin(2): of like ones the first", x.begin(2), 0);
         DUE.due("15 fair(): of like ones the first", x.fair(), 0);
-        x = with(12, 3, 12, 3, 12, 3);
+        x = Tell.players(12, 3, 12, 3, 12, 3);
         // 0 hits 1, 2 hits 0: the one ahead of who begins is alone.
         DUE.due("14 begin(0)", x.begin(0), 1);
         DUE.due("14 begin(1)", x.begin(1), 2);
@@ -238,7 +229,7 @@ public final class OddsTest {
     }
 
     private static void wouldAndRest() {
-        ThreeSnowballs x = with(12, 2, 12, 2);
+        ThreeSnowballs x = Tell.players(12, 2, 12, 2);
         // Told itself is into the air: 0, 1, 3 and 5 hit.
         DUE.due("16 would(0): else the least", x.would(0), 0);
         DUE.due("17 rest()", x.rest(), 0);
@@ -253,9 +244,9 @@ public final class OddsTest {
         DUE.due("16 would(0): told 1", x.would(0), 4);
         x.prize(2, 9);
         DUE.due("16 would(0): alike", x.would(0), 4);
-        x = with(0, 2, 12, 2);
+        x = Tell.players(0, 2, 12, 2);
         DUE.due("17 the first who would", x.rest(), 1);
-        x = with(12, 4, 2, 2, 6, 1);
+        x = Tell.players(12, 4, 2, 2, 6, 1);
         x.mend(0, 2, 0);
         x.bell(2);
         // 0 throws into the air, 1 into the air, three are in: 2. At 2, then 1 alone with it: 4.
@@ -265,7 +256,7 @@ public final class OddsTest {
     }
 
     private static void settling() {
-        ThreeSnowballs x = with(12, 2, 12, 2);
+        ThreeSnowballs x = Tell.players(12, 2, 12, 2);
         DUE.due("18 settle(-1)", x.settle(-1), 1);
         DUE.due("18 settle(0)", x.settle(0), 0);
         DUE.due("18 settle(1)", x.settle(1), 2);
@@ -274,14 +265,14 @@ public final class OddsTest {
         DUE.due("18 it is REST", x.settle(-1), 0);
         DUE.due("18 settle(0)", x.settle(0), 3);
         // From the page's runs: no REST within eight.
-        x = with(5, 5, 8, 0, 3, 5, 11, 1);
+        x = Tell.players(5, 5, 8, 0, 3, 5, 11, 1);
         x.bell(9);
         DUE.due("18 settle(-1)", x.settle(-1), NOT);
         DUE.due("18 settle(0)", x.settle(0), NOT);
         DUE.due("18 settle(4)", x.settle(4), BAD);
         DUE.due("18 in thought", x.of(1, 1) * 10 + x.of(0, 1), 5);
         // REST behind the eighth, and behind a ninth that is not made any more.
-        x = with(7, 4, 0, 0, 5, 1, 5, 2);
+        x = Tell.players(7, 4, 0, 0, 5, 1, 5, 2);
         x.bell(5);
         DUE.due("17 rest()", x.rest(), 0);
         DUE.due("18 settle(-1)", x.settle(-1), 8);
@@ -289,7 +280,7 @@ public final class OddsTest {
         for (int player = 0; player < 4; player++) {
             DUE.due("18 settle(" + player + ")", x.settle(player), settled[player]);
         }
-        x = with(6, 0, 1, 2, 2, 3, 7, 2);
+        x = Tell.players(6, 0, 1, 2, 2, 3, 7, 2);
         x.bell(3);
         x.mend(1, 2, 1);
         x.mend(2, 2, 3);
@@ -299,35 +290,35 @@ public final class OddsTest {
     }
 
     private static void evens() {
-        ThreeSnowballs x = with(3, 3, 12, 3);
+        ThreeSnowballs x = Tell.players(3, 3, 12, 3);
         x.bell(2);
         DUE.due("19 even(0): by half they are like", x.even(0), 6);
         DUE.due("19 in thought", x.of(0, 0), 3);
         x.mend(1, 0, 11);
         // 207 x less 1188 by 144: nearest to 0 with 6.
         DUE.due("19 even(0)", x.even(0), 6);
-        x = with(3, 3, 12, 3);
+        x = Tell.players(3, 3, 12, 3);
         x.bell(1);
         x.prize(2, 0);
         x.mend(0, 1, 2);
         DUE.due("19 of like ones the fewest", x.even(0), 0);
-        x = with(3, 2, 12, 3);
+        x = Tell.players(3, 2, 12, 3);
         x.order(21);
         x.bell(1);
         // By x twelfths 1 is alone and has 9, else both have 4: with 0 they are like.
         DUE.due("19 the least", x.even(1), 0);
-        x = with(3, 3, 12, 3);
-        tell(x, "a=0?h/2;12");
+        x = Tell.players(3, 3, 12, 3);
+        DUE.due("10 the law", Tell.law(x, "a=0?h/2;12"), 1);
         x.bell(2);
         // THE LAW gives half the HITS: by half they are like.
         DUE.due("19 the most", x.even(0), 12);
-        x = with(3, 3, 5, 3);
-        tell(x, "a=0?(h>6)*12;12");
+        x = Tell.players(3, 3, 5, 3);
+        DUE.due("10 the law", Tell.law(x, "a=0?(h>6)*12;12"), 1);
         // 9 above or 9 below: the size counts.
         DUE.due("19 of like sizes the fewest", x.even(0), 0);
-        x = with(9, 0);
+        x = Tell.players(9, 0);
         DUE.due("19 one alone", x.even(0), 0);
-        x = with(12, 2, 4, 2, 12, 0);
+        x = Tell.players(12, 2, 4, 2, 12, 0);
         x.bell(3);
         x.prize(3, 5);
         x.prize(2, 5);
@@ -336,7 +327,7 @@ public final class OddsTest {
     }
 
     private static void leagueAndPoints() {
-        ThreeSnowballs x = with(12, 3, 6, 3, 12, 3);
+        ThreeSnowballs x = Tell.players(12, 3, 6, 3, 12, 3);
         DUE.due("20 league(1)", x.league(1), 1);
         DUE.due("20 league(10)", x.league(10), 2);
         DUE.due("20 league(2): by the ORDER", x.league(2), 1);
@@ -359,13 +350,13 @@ public final class OddsTest {
 
     /** Each on an object that was asked nothing ahead, and behind each thing that is told. */
     private static void askedFirst() {
-        DUE.due("14 begin(1)", with(12, 3, 12, 3).begin(1), 1);
-        DUE.due("15 fair()", with(12, 3, 6, 3).fair(), 1);
-        DUE.due("17 rest()", with(12, 2, 12, 2).rest(), 0);
-        DUE.due("20 league(2)", with(12, 3, 6, 3, 12, 3).league(2), 1);
-        DUE.due("21 points(0)", with(12, 3, 6, 3, 12, 3).points(0), 4);
-        DUE.due("13 aims(0, 7, 0)", with(12, 0, 6, 3, 12, 3).aims(0, 7, 0), 2);
-        ThreeSnowballs x = with(12, 3);
+        DUE.due("14 begin(1)", Tell.players(12, 3, 12, 3).begin(1), 1);
+        DUE.due("15 fair()", Tell.players(12, 3, 6, 3).fair(), 1);
+        DUE.due("17 rest()", Tell.players(12, 2, 12, 2).rest(), 0);
+        DUE.due("20 league(2)", Tell.players(12, 3, 6, 3, 12, 3).league(2), 1);
+        DUE.due("21 points(0)", Tell.players(12, 3, 6, 3, 12, 3).points(0), 4);
+        DUE.due("13 aims(0, 7, 0)", Tell.players(12, 0, 6, 3, 12, 3).aims(0, 7, 0), 2);
+        ThreeSnowballs x = Tell.players(12, 3);
         worth(x, 0, 0, 9, 1);
         x.player(7, 3);
         worth(x, 1, 0, 0, 1);
@@ -378,7 +369,7 @@ public final class OddsTest {
         DUE.due("21 points(0)", x.points(0), 4);
         x.redo();
         DUE.due("21 points(0)", x.points(0), 0);
-        tell(x, "a=0?12;h");
+        DUE.due("10 the law", Tell.law(x, "a=0?12;h"), 1);
         DUE.due("21 points(0)", x.points(0), 4);
         x.order(321);
         DUE.due("21 points(0)", x.points(0), 0);
@@ -386,15 +377,8 @@ public final class OddsTest {
         DUE.due("21 points(0)", x.points(0), 2);
     }
 
-    private static void tell(ThreeSnowballs x, String law) {
-        for (char c : law.toCharArray()) {
-            x.feed(c);
-        }
-        DUE.due("10 " + law, x.law(), 1);
-    }
-
     private static void thoughtsChangeNothing() {
-        ThreeSnowballs x = with(4, 5, 8, 1, 12, 2);
+        ThreeSnowballs x = Tell.players(4, 5, 8, 1, 12, 2);
         x.step(0);
         long before = x.worth(0, 0, 0);
         for (int player = 0; player < 3; player++) {

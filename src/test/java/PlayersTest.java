@@ -61,16 +61,9 @@ public final class PlayersTest {
         }
     }
 
-    private static void fill(ThreeSnowballs x, int shelf, int... bytes) {
-        x.row(shelf, 0, bytes.length);
-        for (int i = 0; i < bytes.length; i++) {
-            x.put(shelf, i, bytes[i]);
-        }
-    }
-
     private static void playersFromRows() {
         ThreeSnowballs x = new ThreeSnowballs();
-        fill(x, 5, 9, 4, 1, 12, 5, 0, 0, 6);
+        Tell.row(x, 5, 9, 4, 1, 12, 5, 0, 0, 6);
         DUE.due("3 players(5, 1, 1): from a place on", x.players(5, 1, 1), 1);
         DUE.due("3 hits", x.of(0, 0), 4);
         DUE.due("3 way", x.of(0, 1), 1);
@@ -85,22 +78,22 @@ public final class PlayersTest {
         DUE.due("3 players(5, 1, 4): full", x.players(5, 1, 4), 0);
 
         x = new ThreeSnowballs();
-        fill(x, 0, 5, 5, 6, 6, 7, 0);
+        Tell.row(x, 0, 5, 5, 6, 6, 7, 0);
         DUE.due("3 one is not so: a way", x.players(0, 0, 3), 1);
-        fill(x, 0, 5, 5, 13, 0);
+        Tell.row(x, 0, 5, 5, 13, 0);
         DUE.due("3 one is not so: hits", x.players(0, 0, 3), 1);
-        fill(x, 0, -1, 5);
+        Tell.row(x, 0, -1, 5);
         DUE.due("3 one is not so: hits below 0", x.players(0, 0, 1), 0);
-        fill(x, 0, 5, -1);
+        Tell.row(x, 0, 5, -1);
         DUE.due("3 one is not so: a way below 0", x.players(0, 0, 1), 0);
-        fill(x, 0, 5);
+        Tell.row(x, 0, 5);
         DUE.due("3 a row of one", x.players(0, 0, 1), 0);
         DUE.due("3 those ahead came", x.count(0), 2);
     }
 
     private static void playersFromRowsRefused() {
         ThreeSnowballs x = new ThreeSnowballs();
-        fill(x, 0, 5, 5);
+        Tell.row(x, 0, 5, 5);
         x.row(1, 1, 4);
         x.body(0);
         x.keep(2, 0);

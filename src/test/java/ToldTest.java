@@ -17,23 +17,8 @@ public final class ToldTest {
         DUE.end();
     }
 
-    private static ThreeSnowballs with(int... told) {
-        ThreeSnowballs x = new ThreeSnowballs();
-        for (int i = 0; i < told.length; i += 2) {
-            x.player(told[i], told[i + 1]);
-        }
-        return x;
-    }
-
-    private static void tell(ThreeSnowballs x, int... bytes) {
-        x.row(0, 0, bytes.length);
-        for (int i = 0; i < bytes.length; i++) {
-            x.put(0, i, bytes[i]);
-        }
-    }
-
     private static void judged(ThreeSnowballs x, int want, int... bytes) {
-        tell(x, bytes);
+        Tell.row(x, 0, bytes);
         DUE.due("22 judge(0, 0)", x.judge(0, 0), want);
         if (want != NOT) {
             DUE.due("22 WRONG: NOT, if JUDGED tells one", x.judge(0, 1), NOT);
@@ -43,7 +28,7 @@ public final class ToldTest {
     }
 
     private static void whatCanBe() {
-        ThreeSnowballs x = with(6, 3, 6, 3, 6, 3);
+        ThreeSnowballs x = Tell.players(6, 3, 6, 3, 6, 3);
         judged(x, NOT);
         judged(x, NOT, 1, 0);
         judged(x, NOT, 1, 1);
@@ -59,7 +44,7 @@ public final class ToldTest {
     }
 
     private static void whatCannotBe() {
-        ThreeSnowballs x = with(6, 3, 6, 3, 6, 3);
+        ThreeSnowballs x = Tell.players(6, 3, 6, 3, 6, 3);
         judged(x, 0, 0, 0);
         judged(x, 1, 1, 0, 1, 0);
         judged(x, 0, 3, 0);
@@ -87,23 +72,20 @@ public final class ToldTest {
         x.bell(0);
         judged(x, 0, 1, 0);
         judged(x, NOT);
-        judged(with(), NOT);
-        judged(with(), 0, 9, 0);
-        judged(with(), 0, 9);
-        judged(with(6, 3), 0, 9, 0);
+        judged(Tell.players(), NOT);
+        judged(Tell.players(), 0, 9, 0);
+        judged(Tell.players(), 0, 9);
+        judged(Tell.players(6, 3), 0, 9, 0);
     }
 
     private static void numbersOfThrows() {
-        ThreeSnowballs x = with(0, 3, 12, 3, 6, 3);
+        ThreeSnowballs x = Tell.players(0, 3, 12, 3, 6, 3);
         judged(x, 0, 1, 1);
         judged(x, NOT, 1, 0);
         judged(x, 1, 1, 0, 2, 0);
         judged(x, NOT, 1, 0, 2, 1);
         judged(x, NOT, 9, 0, 9, 0);
-        for (char c : "t=0?12;n=0?0;6".toCharArray()) {
-            x.feed(c);
-        }
-        x.law();
+        Tell.law(x, "t=0?12;n=0?0;6");
         judged(x, 0, 1, 1);
         judged(x, 1, 2, 0, 0, 0);
         judged(x, NOT, 2, 0, 0, 1);
@@ -111,7 +93,7 @@ public final class ToldTest {
     }
 
     private static void oneTwelfthAndEleven() {
-        ThreeSnowballs x = with(1, 3, 11, 3);
+        ThreeSnowballs x = Tell.players(1, 3, 11, 3);
         judged(x, NOT, 1, 1);
         judged(x, NOT, 1, 0, 0, 0);
         chance(x, 1, 12, 1, 1);
@@ -128,7 +110,7 @@ public final class ToldTest {
     }
 
     private static void whoWasWrong() {
-        ThreeSnowballs x = with(6, 3, 6, 2, 6, 0);
+        ThreeSnowballs x = Tell.players(6, 3, 6, 2, 6, 0);
         wrong(x, NOT);
         wrong(x, NOT, 1, 0, 9, 0, 0, 0, 1, 1, 0, 1);
         wrong(x, 0, 2, 0, 9, 0);
@@ -137,7 +119,7 @@ public final class ToldTest {
         wrong(x, 2, 1, 0, 9, 0, 1, 0);
         wrong(x, 2, 1, 0, 9, 0, 9, 0, 9, 0);
         // Who is BEST throws otherwise the last time.
-        x = with(6, 5, 6, 2);
+        x = Tell.players(6, 5, 6, 2);
         x.prize(2, 9);
         wrong(x, NOT, 9, 0);
         wrong(x, 0, 1, 0);
@@ -147,13 +129,13 @@ public final class ToldTest {
     }
 
     private static void chance(ThreeSnowballs x, long above, long below, int... bytes) {
-        tell(x, bytes);
+        Tell.row(x, 0, bytes);
         DUE.due("23 chance above", x.chance(0, 0), above);
         DUE.due("23 chance below", x.chance(0, 1), below);
     }
 
     private static void chances() {
-        ThreeSnowballs x = with(5, 3, 3, 3, 12, 3);
+        ThreeSnowballs x = Tell.players(5, 3, 3, 3, 12, 3);
         chance(x, 1, 1);
         chance(x, 5, 12, 1, 1);
         chance(x, 7, 12, 1, 0);
@@ -163,17 +145,17 @@ public final class ToldTest {
         chance(x, 7, 48, 1, 0, 0, 1);
         chance(x, 5, 12, 1, 1, 0, 1);
         chance(x, 0, 1, 1, 1, 0, 0);
-        x = with(1, 3, 1, 3);
+        x = Tell.players(1, 3, 1, 3);
         x.bell(9);
         chance(x, 2357947691L, 5159780352L, 1, 0, 0, 0, 1, 0, 0, 0, 1, 0, 0, 0, 1, 0, 0, 0, 1, 0);
     }
 
     private static void refused() {
-        ThreeSnowballs x = with(5, 3, 3, 3);
+        ThreeSnowballs x = Tell.players(5, 3, 3, 3);
         x.row(1, 1, 2);
         x.body(3);
         x.keep(2, 0);
-        tell(x, 1, 0);
+        Tell.row(x, 0, 1, 0);
         int[][] wrong = {{-1, 0}, {6, 0}, {0, 2}, {0, -1}, {3, 2}};
         for (int[] w : wrong) {
             DUE.due("22 judge(" + w[0] + ", " + w[1] + ")", x.judge(w[0], w[1]), BAD);
@@ -211,7 +193,7 @@ public final class ToldTest {
     }
 
     private static void drawn() {
-        ThreeSnowballs x = with(5, 3, 0, 2);
+        ThreeSnowballs x = Tell.players(5, 3, 0, 2);
         x.bell(1);
         for (int seed : new int[] {0, 1, -1, 77, Integer.MIN_VALUE, Integer.MAX_VALUE}) {
             for (int n : new int[] {1, 2, 30}) {
@@ -224,10 +206,7 @@ public final class ToldTest {
         x.mend(0, 0, 0);
         DUE.due("25 who hits never", x.drawn(5, 30, 1), 30);
         x.mend(0, 0, 5);
-        for (char c : "9".toCharArray()) {
-            x.feed(c);
-        }
-        x.law();
+        Tell.law(x, "9");
         DUE.due("25 THE LAW's number", x.drawn(3, 30, 1), 30 - hitsDrawn(3, 30, 9));
         int[][] wrong = {{0, 0, 0}, {0, 31, 0}, {0, -1, 0}, {0, 1, 2}, {0, 1, -1}};
         for (int[] w : wrong) {
@@ -249,14 +228,14 @@ public final class ToldTest {
 
     private static void drawnOfSeveral() {
         // 0 into the air draws nothing; 1 throws, and 0 is out or in.
-        ThreeSnowballs x = with(12, 2, 4, 3);
+        ThreeSnowballs x = Tell.players(12, 2, 4, 3);
         x.bell(2);
         DUE.due("25 the air draws nothing", x.drawn(11, 30, 0), 30 - hitsDrawn(11, 30, 4));
         x.step(0);
         x.step(0);
         DUE.due("25 all are in at first", x.drawn(11, 30, 0), 30 - hitsDrawn(11, 30, 4));
         // 0 hits 1, 2 hits 0: 2 is alone.
-        x = with(12, 3, 12, 3, 12, 3);
+        x = Tell.players(12, 3, 12, 3, 12, 3);
         DUE.due("25 drawn(1, 30, 0)", x.drawn(1, 30, 0), 0);
         DUE.due("25 drawn(1, 30, 1)", x.drawn(1, 30, 1), 0);
         DUE.due("25 drawn(1, 30, 2)", x.drawn(1, 30, 2), 30);
