@@ -47,15 +47,15 @@ public final class ThreeSnowballs {
     }
 
     public int players(int shelf, int i, int n) {
-        if (!isWithin(shelf, SHELVES - 1) || i < 0 || n < 1 || n > MOST_PLAYERS) {
+        if (!isWithin(shelf, SHELVES - 1) || n < 1 || n > MOST_PLAYERS) {
             return BAD;
         }
         Shelf from = shelves[shelf];
         if (from.sort != Shelf.NOTHING && from.sort != BYTES) {
             return OTHER_KIND;
         }
-        // What is left of the row from i on, so that no sum of i can wrap.
-        int left = from.sort == BYTES ? from.length - i : 0;
+        // Any place may be told, below 0 too: nothing is left there. Counting what is left, no sum of i can wrap.
+        int left = from.sort == BYTES && i >= 0 ? from.length - i : 0;
         int came = 0;
         while (came < n && 2 * came + 1 < left && group.size < MOST_PLAYERS) {
             long hits = from.elements[i + 2 * came];

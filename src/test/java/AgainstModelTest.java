@@ -106,7 +106,7 @@ public final class AgainstModelTest {
                 : (long) random.nextInt(i % 2 == 0 ? 14 : 7));
         }
         if (method.getName().equals("players")) {
-            call("players", shelf, random.nextInt(3), 1 + random.nextInt(4));
+            call("players", shelf, random.nextInt(5) - 1, 1 + random.nextInt(4));
             return;
         }
         for (int what = 0; what < 2; what++) {

@@ -122,7 +122,7 @@ final class Model {
     }
 
     public int players(int shelf, int i, int n) {
-        if (!in(shelf, 0, 5) || i < 0 || !in(n, 1, 4)) return BAD;
+        if (!in(shelf, 0, 5) || !in(n, 1, 4)) return BAD;
         if (shelves[shelf] instanceof Body) return -12;
         if (shelves[shelf] instanceof Row r && r.sort != 0) return -12;
         int came = 0;

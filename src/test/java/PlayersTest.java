@@ -8,6 +8,7 @@ public final class PlayersTest {
         players();
         playersFromRows();
         playersFromRowsRefused();
+        playersFromPlacesBelow0();
         mended();
         orders();
         bells();
@@ -97,7 +98,7 @@ public final class PlayersTest {
         x.row(1, 1, 4);
         x.body(0);
         x.keep(2, 0);
-        int[][] wrong = {{-1, 0, 1}, {6, 0, 1}, {0, -1, 1}, {0, 0, 0}, {0, 0, 5}, {0, 0, -1}, {1, 0, 5}};
+        int[][] wrong = {{-1, 0, 1}, {6, 0, 1}, {0, 0, 0}, {0, 0, 5}, {0, 0, -1}, {1, 0, 5}, {6, -1, 1}, {0, -1, 0}};
         for (int[] w : wrong) {
             DUE.due("3 players(" + w[0] + ", " + w[1] + ", " + w[2] + ")", x.players(w[0], w[1], w[2]), BAD);
         }
@@ -105,6 +106,28 @@ public final class PlayersTest {
         DUE.due("3 a thrower", x.players(2, 0, 1), -12);
         DUE.due("3 the row is missing", x.players(3, 0, 4), 0);
         DUE.due("3 nobody came", x.count(0), 0);
+    }
+
+    /** There is no PLAYER at such a place, but it is no wrong one. */
+    private static void playersFromPlacesBelow0() {
+        ThreeSnowballs x = Tell.players(12, 3, 12, 3, 12, 3);
+        Tell.row(x, 0, 5, 5, 6, 0, 7, 1);
+        x.row(1, 1, 4);
+        x.body(0);
+        x.keep(2, 0);
+        x.step(0);
+        x.image();
+        for (int i : new int[] {-1, -2, -6, -7, -60, Integer.MIN_VALUE, Integer.MIN_VALUE + 1}) {
+            for (int n = 1; n <= 4; n++) {
+                DUE.due("3 players(0, " + i + ", " + n + "): a row of bytes", x.players(0, i, n), 0);
+                DUE.due("3 players(3, " + i + ", " + n + "): the row is missing", x.players(3, i, n), 0);
+                DUE.due("3 players(1, " + i + ", " + n + "): a row of shorts", x.players(1, i, n), -12);
+                DUE.due("3 players(2, " + i + ", " + n + "): a thrower", x.players(2, i, n), -12);
+            }
+        }
+        DUE.due("3 nobody came", x.count(0), 3);
+        DUE.due("3 the FIGHT in deed goes on", x.count(2), 1);
+        DUE.due("3 the IMAGE stays", x.back(), 1);
     }
 
     private static void mended() {
