@@ -797,7 +797,7 @@ public final class ThreeSnowballs {
                     case 'n': push(n); break;
                     case '!': push(pop() == 0 ? 1 : 0); break;
                     case MINUS_AHEAD: push(-pop()); break;
-                    case '?': i = pop() != 0 ? i + 1 : lastOfLine(i); break;
+                    case '?': i = Math.max(i, pop() != 0 ? i + 1 : lastOfLine(i)); break;
                     case ';': return Math.max(0, Math.min(TWELVE, pop()));
                     default:
                         int right = pop();
@@ -808,9 +808,9 @@ public final class ThreeSnowballs {
             return 0;
         }
 
-        /** The last cell of the LINE whose ? is told; never one ahead of it. */
+        /** The last cell of the LINE whose ? is told. */
         private int lastOfLine(int ask) {
-            return ask + 1 < length ? Math.max(ask, cells[ask + 1] - 1) : ask;
+            return ask + 1 < length ? cells[ask + 1] - 1 : length;
         }
 
         private static int joined(int sign, int left, int right) {

@@ -7,6 +7,7 @@ public final class DeedTest {
         steps();
         stepsTillTheBell();
         stepsByWaysOfNow();
+        everyNumber();
         images();
         imagesKeepTheTurn();
         imagesThatGo();
@@ -71,6 +72,18 @@ public final class DeedTest {
         DUE.due("27 anew()", x.anew(), 4);
     }
 
+    private static void everyNumber() {
+        for (int hits = 0; hits <= 12; hits++) {
+            for (int number = 0; number <= 11; number++) {
+                ThreeSnowballs x = Tell.players(hits, 3, 0, 3);
+                int due = number < hits ? 11 : 10;
+                DUE.due("26 step(" + number + ") with HITS " + hits, x.step(number), due);
+                DUE.due("41 who are in", x.count(1), due == 11 ? 1 : 3);
+                DUE.due("8 of(1, 4)", x.of(1, 4), due == 11 ? 0 : 1);
+            }
+        }
+    }
+
     private static void images() {
         ThreeSnowballs x = Tell.players(12, 3, 12, 3, 12, 3);
         DUE.due("29 there is none", x.back(), STATE);
@@ -91,6 +104,18 @@ public final class DeedTest {
         x.law();
         DUE.due("29 back(): mend, prize and law leave it", x.back(), 1);
         DUE.due("29 HITS are not in it", x.of(0, 0), 3);
+        x.undo();
+        DUE.due("29 back(): undo() leaves it", x.back(), 1);
+        x.redo();
+        DUE.due("29 back(): redo() leaves it", x.back(), 1);
+        x.anew();
+        DUE.due("28 image(): the latest counts", x.image(), 0);
+        x.step(0);
+        DUE.due("29 back()", x.back(), 0);
+        DUE.due("41 count(1)", x.count(1), 7);
+        x.step(0);
+        DUE.due("27 anew()", x.anew(), 1);
+        DUE.due("29 back()", x.back(), 0);
     }
 
     private static void imagesKeepTheTurn() {

@@ -56,6 +56,10 @@ public final class LanguageTest {
             DUE.due("1 not public: " + c, Modifier.isPublic(c.getModifiers()) || Modifier.isProtected(c.getModifiers()) ? 1 : 0, 0);
             DUE.due("2 none inside it: " + c, c.getDeclaredClasses().length, 0);
             fieldsOf(c);
+            for (Method m : c.getDeclaredMethods()) {
+                boolean isTwofold = Modifier.isPrivate(m.getModifiers()) && Set.of(FACE.split(" ")).contains(m.getName());
+                DUE.due("1 no private one bears a public one's name: " + m, isTwofold ? 1 : 0, 0);
+            }
         }
     }
 

@@ -10,7 +10,12 @@ public final class LawTest {
         outcomes();
         names();
         heldWithinTwelve();
+        wholeTapes();
         aFaultLeavesTheLaw();
+        aFaultIsNoLaw();
+        hitsTellWhoIsStrong();
+        theTapeOfEachByte();
+        shortTexts();
         DUE.end();
     }
 
@@ -194,6 +199,21 @@ public final class LawTest {
         number("12", 12);
     }
 
+    /** TEXTS of 120 bytes, and what lacks at their end. */
+    private static void wholeTapes() {
+        number("11" + "+0".repeat(59), 11);
+        number("0?1;".repeat(29) + "1?12", 12);
+        number("0?1;".repeat(29) + "0?12", 0);
+        number("((((((1))))))*1+".repeat(7) + "((!0)+0)", 8);
+        number("!!!!(h)" + "*------1".repeat(13) + "*1*1*1*11", 11);
+        fault("0?1;".repeat(30), 120);
+        fault("h" + "+h".repeat(59) + "|", 120);
+        fault("h+".repeat(57) + "((((((", 120);
+        fault("h+".repeat(56) + "!!!!!!!h", 118);
+        fault("h".repeat(120), 1);
+        fault("h" + ";h".repeat(59) + ";", 120);
+    }
+
     private static void aFaultLeavesTheLaw() {
         ThreeSnowballs x = new ThreeSnowballs();
         x.player(12, 3);
@@ -205,5 +225,64 @@ public final class LawTest {
         DUE.due("10 THE LAW is as it was", x.just(3, 0), 1);
         DUE.due("10 another law", Tell.law(x, "h"), 1);
         DUE.due("10 it counts", x.just(3, 0), 0);
+    }
+
+    private static void aFaultIsNoLaw() {
+        for (String fault : new String[] {"5;", "5;x", "0;5+", "1?5;", "5)", "5 ", "", "12345", "0?1;0?"}) {
+            ThreeSnowballs x = Tell.players(12, 3, 12, 2);
+            x.bell(1);
+            DUE.due("10 " + fault + " is none", Tell.law(x, fault) <= -100 ? 1 : 0, 1);
+            DUE.due("10 without a text h, behind " + fault, x.just(3, 0), 0);
+            x.mend(0, 0, 0);
+            DUE.due("10 without a text h, behind " + fault, x.just(3, 0), 1);
+            DUE.due("10 law 12", Tell.law(x, "12"), 1);
+            DUE.due("10 " + fault + " is none", Tell.law(x, fault) <= -100 ? 1 : 0, 1);
+            DUE.due("10 THE LAW is as it was, behind " + fault, x.just(3, 0), 0);
+        }
+    }
+
+    private static void hitsTellWhoIsStrong() {
+        ThreeSnowballs x = Tell.players(2, 0, 9, 1, 5, 0);
+        DUE.due("10 law 12-h", Tell.law(x, "12-h"), 1);
+        DUE.due("13 the most HITS", x.aims(0, 7, 0), 1);
+        DUE.due("13 the most HITS", x.aims(2, 7, 0), 1);
+        DUE.due("13 the fewest HITS", x.aims(1, 7, 0), 0);
+        DUE.due("26 THE LAW tells how it hits", x.step(9), 11);
+    }
+
+    private static void theTapeOfEachByte() {
+        for (int letter = 0; letter <= 255; letter++) {
+            ThreeSnowballs x = new ThreeSnowballs();
+            boolean isOperand = letter >= '0' && letter <= '9' || "hatmn".indexOf(letter) >= 0;
+            boolean goesOn = "(!-".indexOf(letter) >= 0;
+            DUE.due("9 feed(" + letter + ")", x.feed(letter), 1);
+            DUE.due("10 the byte " + letter, x.law(), isOperand ? 1 : goesOn ? -101 : -100);
+            x.feed('7');
+            x.feed(letter);
+            boolean isDigit = letter >= '0' && letter <= '9';
+            boolean joins = "|&<=>+-*/%?;".indexOf(letter) >= 0;
+            DUE.due("10 the byte " + letter + " behind 7", x.law(), isDigit ? 1 : joins ? -102 : -101);
+        }
+    }
+
+    /** Every text of up to four of these bytes: a FAULT or none, as the model finds by trying all that could follow. */
+    private static void shortTexts() {
+        String signs = "h1(!-+*<|?;)";
+        for (int length = 0; length <= 4; length++) {
+            int texts = (int) Math.pow(signs.length(), length);
+            ThreeSnowballs x = new ThreeSnowballs();
+            Model model = new Model();
+            for (int text = 0; text < texts; text++) {
+                StringBuilder told = new StringBuilder();
+                for (int i = 0, left = text; i < length; i++, left /= signs.length()) {
+                    told.append(signs.charAt(left % signs.length()));
+                    model.feed(signs.charAt(left % signs.length()));
+                }
+                if (text % 100 == 0) {
+                    x = new ThreeSnowballs();
+                }
+                DUE.due("10 " + told, Tell.law(x, told.toString()), model.law());
+            }
+        }
     }
 }

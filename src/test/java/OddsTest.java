@@ -11,12 +11,14 @@ public final class OddsTest {
         best();
         bestOfLikeOnes();
         justAndThrows();
+        everyBell();
         wrongInputs();
         beginAndFair();
         wouldAndRest();
         settling();
         evens();
         leagueAndPoints();
+        leagueOfFour();
         askedFirst();
         thoughtsChangeNothing();
         DUE.end();
@@ -174,6 +176,29 @@ public final class OddsTest {
         just(x, 2, 15, 32);
         // (4 + 3 / 2 + 5 / 4 + 7 / 8 + 9 / 8) / 2
         just(x, -1, 35, 8);
+    }
+
+    private static void everyBell() {
+        long missed = 1;
+        long whole = 1;
+        for (int t = 0; t <= 9; t++) {
+            ThreeSnowballs x = Tell.players(1, 3, 1, 3);
+            x.bell(t);
+            // Both miss each time; what else there is ends with one alone.
+            just(x, 3, missed, whole);
+            DUE.due("13 aims(0, 3, T)", x.aims(0, 3, t), BAD);
+            DUE.due("13 aims(0, 3, T - 1)", x.aims(0, 3, t - 1), t == 0 ? BAD : 1);
+            x = Tell.players(12, 2, 12, 2, 12, 2, 12, 2);
+            x.bell(t);
+            // Throws into the air are throws, too.
+            just(x, -1, t, 1);
+            just(x, 15, 1, 1);
+            worth(x, 3, 0, 1, 1);
+            worth(x, 3, 1, 1, 1);
+            worth(x, 3, 2, 0, 1);
+            missed *= 11;
+            whole *= 12;
+        }
     }
 
     private static void wrongInputs() {
@@ -346,6 +371,25 @@ public final class OddsTest {
         x.bell(0);
         DUE.due("20 like", x.league(2), 0);
         DUE.due("21 points(1)", x.points(1), 2);
+    }
+
+    private static void leagueOfFour() {
+        ThreeSnowballs x = Tell.players(12, 3, 12, 3, 12, 4, 12, 2);
+        // Who begins of two is alone; 2 throws at 0 alone, 3 at nobody.
+        int[][] due = {{BAD, 1, 1, 1}, {2, BAD, 1, 1}, {2, 2, BAD, 0}, {2, 2, 0, BAD}};
+        int[] points = {6, 4, 1, 1};
+        for (int one = 0; one < 4; one++) {
+            for (int other = 0; other < 4; other++) {
+                DUE.due("20 league(" + one + other + ")", x.league(10 * one + other), due[one][other]);
+            }
+            DUE.due("21 points(" + one + ")", x.points(one), points[one]);
+        }
+        for (int ab : new int[] {4, 14, 40, 41, 44, 34, 43, 9, 90, 101, 113, -1, -12}) {
+            DUE.due("20 league(" + ab + ")", x.league(ab), BAD);
+        }
+        x.order(4321);
+        DUE.due("20 league(20): 2 begins, at the one that it has TOLD itself", x.league(20), 1);
+        DUE.due("20 league(21): told one who is out", x.league(21), 2);
     }
 
     /** Each on an object that was asked nothing ahead, and behind each thing that is told. */

@@ -7,8 +7,10 @@ public final class PlayersTest {
         newObject();
         players();
         playersFromRows();
+        playersThatFillARow();
         playersFromRowsRefused();
         playersFromPlacesBelow0();
+        aPlayerNotThereIsTold();
         mended();
         orders();
         bells();
@@ -90,6 +92,53 @@ public final class PlayersTest {
         Tell.row(x, 0, 5);
         DUE.due("3 a row of one", x.players(0, 0, 1), 0);
         DUE.due("3 those ahead came", x.count(0), 2);
+    }
+
+    private static void playersThatFillARow() {
+        int[] told = {12, 5, 0, 0, 7, 3, 1, 2};
+        for (int n = 1; n <= 4; n++) {
+            ThreeSnowballs x = new ThreeSnowballs();
+            x.row(3, 0, 2 * n);
+            for (int i = 0; i < 2 * n; i++) {
+                x.put(3, i, told[i]);
+            }
+            DUE.due("3 players(3, 0, " + n + "): all of the row", x.players(3, 0, n), n);
+            for (int player = 0; player < n; player++) {
+                DUE.due("3 HITS of " + player, x.of(player, 0), told[2 * player]);
+                DUE.due("3 WAY of " + player, x.of(player, 1), told[2 * player + 1]);
+                DUE.due("3 whom TOLD of " + player, x.of(player, 2), 0);
+                DUE.due("3 " + player + " is last in the ORDER", x.of(player, 3), player);
+            }
+            DUE.due("3 no more are there", x.count(0), n);
+            x = new ThreeSnowballs();
+            Tell.row(x, 3, java.util.Arrays.copyOf(told, 2 * n));
+            DUE.due("3 players(3, 0, 4) from " + n + " twos", x.players(3, 0, 4), n);
+            x = new ThreeSnowballs();
+            Tell.row(x, 3, java.util.Arrays.copyOf(told, 2 * n - 1));
+            DUE.due("3 players(3, 0, " + n + "): a byte lacks", x.players(3, 0, n), n - 1);
+        }
+        ThreeSnowballs x = Tell.players(3, 3, 3, 3);
+        x.order(21);
+        x.row(0, 0, 60);
+        x.put(0, 58, 6);
+        x.put(0, 59, 4);
+        DUE.due("3 players(0, 60, 1): behind the last place", x.players(0, 60, 1), 0);
+        DUE.due("3 players(0, 59, 1): the last place", x.players(0, 59, 1), 0);
+        DUE.due("3 players(0, 58, 2): the last two", x.players(0, 58, 2), 1);
+        DUE.due("3 who came is last in the ORDER", x.of(2, 3), 2);
+        DUE.due("3 the others as they were", x.of(1, 3), 0);
+        DUE.due("3 WAY", x.of(2, 1), 4);
+        x.row(0, 0, 0);
+        DUE.due("3 a ROW of no elements", x.players(0, 0, 1), 0);
+    }
+
+    /** Whom one has TOLD itself need not be there, and counts as soon as it is. */
+    private static void aPlayerNotThereIsTold() {
+        ThreeSnowballs x = Tell.players(12, 4, 12, 2);
+        DUE.due("4 mend(0, 2, 2)", x.mend(0, 2, 2), 0);
+        DUE.due("26 it is not there: into the air", x.step(0), 90);
+        x.player(12, 2);
+        DUE.due("26 it is there", x.step(0), 21);
     }
 
     private static void playersFromRowsRefused() {

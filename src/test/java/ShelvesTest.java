@@ -5,15 +5,28 @@ public final class ShelvesTest {
     private static final long NONE = Long.MIN_VALUE;
 
     public static void main(String[] args) {
+        nothingAtFirst();
         keeping();
         rows();
         elements();
         lowestBits();
         shifts();
+        shiftsOfEachSort();
         shiftsRefused();
         kinds();
         counts();
         DUE.end();
+    }
+
+    private static void nothingAtFirst() {
+        ThreeSnowballs x = new ThreeSnowballs();
+        for (int shelf = 0; shelf < 6; shelf++) {
+            DUE.due("40 taken(" + shelf + ", 0)", x.taken(shelf, 0), -11);
+            DUE.due("37 put(" + shelf + ", 0, 1)", x.put(shelf, 0, 1), -11);
+            DUE.due("22 judge(" + shelf + ", 0)", x.judge(shelf, 0), -11);
+            DUE.due("39 shift(" + shelf + ", 0, 0, 0, 0)", x.shift(shelf, 0, 0, 0, 0), -11);
+            DUE.due("3 players(" + shelf + ", 0, 1)", x.players(shelf, 0, 1), 0);
+        }
     }
 
     private static void keeping() {
@@ -127,6 +140,31 @@ public final class ShelvesTest {
         DUE.due("39 none, at the ends", x.shift(0, 6, 1, 4, 0), 0);
         DUE.due("39 all", x.shift(1, 0, 0, 0, 4), 4);
         holds(x, 0, 20, 21, 11, 12, 14, 15);
+    }
+
+    private static void shiftsOfEachSort() {
+        for (int sort = 0; sort < 5; sort++) {
+            ThreeSnowballs x = new ThreeSnowballs();
+            x.row(0, sort, 60);
+            x.row(5, sort, 60);
+            x.put(0, 0, 1);
+            x.put(0, 59, 1);
+            DUE.due("39 shift(0, 0, 5, 0, 60): all", x.shift(0, 0, 5, 0, 60), 60);
+            holds(x, 5, 1, 0, 0);
+            DUE.due("39 the last", x.element(5, 59), 1);
+            DUE.due("39 shift(5, 1, 5, 59, 1): the second to the last", x.shift(5, 1, 5, 59, 1), 1);
+            DUE.due("39 the last", x.element(5, 59), 0);
+            DUE.due("39 shift(0, 0, 0, 1, 59): the same, on", x.shift(0, 0, 0, 1, 59), 59);
+            holds(x, 0, 1, 1, 0);
+            DUE.due("39 one goes out at the end", x.element(0, 59), 0);
+            for (int other = 0; other < 5; other++) {
+                x.row(1, other, 60);
+                DUE.due("39 of sorts " + sort + ", " + other, x.shift(0, 0, 1, 0, 1), sort == other ? 1 : -12);
+            }
+            DUE.due("39 behind the last place, none", x.shift(0, 60, 5, 60, 0), 0);
+            DUE.due("39 behind that", x.shift(0, 61, 5, 0, 0), -13);
+            DUE.due("39 one too many", x.shift(0, 0, 5, 0, 61), -13);
+        }
     }
 
     private static void shiftsRefused() {

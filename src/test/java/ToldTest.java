@@ -7,6 +7,7 @@ public final class ToldTest {
         whatCanBe();
         whatCannotBe();
         numbersOfThrows();
+        wholeRows();
         oneTwelfthAndEleven();
         whoWasWrong();
         chances();
@@ -90,6 +91,23 @@ public final class ToldTest {
         judged(x, 1, 2, 0, 0, 0);
         judged(x, NOT, 2, 0, 0, 1);
         judged(x, NOT, 9, 0, 2, 0);
+    }
+
+    /** ROWS of 60 bytes: longer than any FIGHT. */
+    private static void wholeRows() {
+        for (int t = 0; t <= 9; t++) {
+            ThreeSnowballs x = Tell.players(6, 2, 6, 2, 6, 2, 6, 2);
+            x.bell(t);
+            int[] airs = new int[60];
+            for (int i = 0; i < 60; i += 2) {
+                airs[i] = 9;
+            }
+            judged(x, t, airs);
+            judged(x, t, java.util.Arrays.copyOf(airs, 2 * t + 1));
+            judged(x, NOT, java.util.Arrays.copyOf(airs, 2 * t));
+            DUE.due("22 judge(0, 1)", x.judge(0, 1), NOT);
+            chance(x, 1, 1, java.util.Arrays.copyOf(airs, 2 * t));
+        }
     }
 
     private static void oneTwelfthAndEleven() {
