@@ -104,6 +104,8 @@ public final class DeedTest {
         x.law();
         DUE.due("29 back(): mend, prize and law leave it", x.back(), 1);
         DUE.due("29 HITS are not in it", x.of(0, 0), 3);
+        Tell.law(x, "h+");
+        DUE.due("29 back(): a FAULT leaves it", x.back(), 1);
         x.undo();
         DUE.due("29 back(): undo() leaves it", x.back(), 1);
         x.redo();

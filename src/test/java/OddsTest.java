@@ -19,6 +19,7 @@ public final class OddsTest {
         evens();
         leagueAndPoints();
         leagueOfFour();
+        four();
         askedFirst();
         thoughtsChangeNothing();
         DUE.end();
@@ -390,6 +391,35 @@ public final class OddsTest {
         x.order(4321);
         DUE.due("20 league(20): 2 begins, at the one that it has TOLD itself", x.league(20), 1);
         DUE.due("20 league(21): told one who is out", x.league(21), 2);
+    }
+
+    private static void four() {
+        ThreeSnowballs x = Tell.players(12, 3, 12, 3, 12, 3, 12, 3);
+        // 0 hits 1, 2 hits 3, 0 hits 2: who begins is alone.
+        for (int player = 0; player < 4; player++) {
+            DUE.due("14 begin(" + player + ")", x.begin(player), player);
+        }
+        DUE.due("15 fair()", x.fair(), 0);
+        x.order(2341);
+        DUE.due("14 begin(0): by places in the ORDER", x.begin(0), 3);
+        DUE.due("14 begin(1): by places in the ORDER", x.begin(1), 0);
+        // From the page's runs.
+        x = Tell.players(5, 5, 8, 0, 3, 5, 11, 1);
+        x.bell(9);
+        int[] begin = {0, 3, 1, 0};
+        int[] would = {5, 3, 5, 1};
+        int[] even = {2, 12, 11, 0};
+        int[] points = {4, 4, 0, 4};
+        for (int player = 0; player < 4; player++) {
+            DUE.due("14 begin(" + player + ")", x.begin(player), begin[player]);
+            DUE.due("16 would(" + player + ")", x.would(player), would[player]);
+            DUE.due("19 even(" + player + ")", x.even(player), even[player]);
+            DUE.due("21 points(" + player + ")", x.points(player), points[player]);
+        }
+        DUE.due("15 fair()", x.fair(), 0);
+        DUE.due("17 rest()", x.rest(), 1);
+        worth(x, 3, 0, 942559513L, 573308928L);
+        DUE.due("12 just(15, 0)", x.just(15, 0), 343);
     }
 
     /** Each on an object that was asked nothing ahead, and behind each thing that is told. */

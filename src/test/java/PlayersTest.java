@@ -1,3 +1,5 @@
+import java.util.Arrays;
+
 /** Promises 1 to 8: a new object, players, mend, order, bell, prize, of. */
 public final class PlayersTest {
     private static final Due DUE = new Due("PlayersTest");
@@ -111,10 +113,10 @@ public final class PlayersTest {
             }
             DUE.due("3 no more are there", x.count(0), n);
             x = new ThreeSnowballs();
-            Tell.row(x, 3, java.util.Arrays.copyOf(told, 2 * n));
+            Tell.row(x, 3, Arrays.copyOf(told, 2 * n));
             DUE.due("3 players(3, 0, 4) from " + n + " twos", x.players(3, 0, 4), n);
             x = new ThreeSnowballs();
-            Tell.row(x, 3, java.util.Arrays.copyOf(told, 2 * n - 1));
+            Tell.row(x, 3, Arrays.copyOf(told, 2 * n - 1));
             DUE.due("3 players(3, 0, " + n + "): a byte lacks", x.players(3, 0, n), n - 1);
         }
         ThreeSnowballs x = Tell.players(3, 3, 3, 3);
@@ -273,7 +275,12 @@ public final class PlayersTest {
         x.order(111);
         x.bell(11);
         x.player(13, 0);
+        Tell.law(x, "h");
+        Tell.law(x, "h+");
+        x.undo();
+        x.redo();
         DUE.due("all that goes on", x.count(2), 1);
+        DUE.due("who is out stays so", x.count(1), 5);
         x.player(0, 0);
         DUE.due("2 a player begins it anew", x.count(2), 0);
         DUE.due("2 all are in", x.count(1), 15);

@@ -1,3 +1,5 @@
+import java.util.Arrays;
+
 /** Promises 22 to 25: judge, chance, seen, drawn. */
 public final class ToldTest {
     private static final Due DUE = new Due("ToldTest");
@@ -103,10 +105,10 @@ public final class ToldTest {
                 airs[i] = 9;
             }
             judged(x, t, airs);
-            judged(x, t, java.util.Arrays.copyOf(airs, 2 * t + 1));
-            judged(x, NOT, java.util.Arrays.copyOf(airs, 2 * t));
+            judged(x, t, Arrays.copyOf(airs, 2 * t + 1));
+            judged(x, NOT, Arrays.copyOf(airs, 2 * t));
             DUE.due("22 judge(0, 1)", x.judge(0, 1), NOT);
-            chance(x, 1, 1, java.util.Arrays.copyOf(airs, 2 * t));
+            chance(x, 1, 1, Arrays.copyOf(airs, 2 * t));
         }
     }
 
